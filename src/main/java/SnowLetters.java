@@ -1,4 +1,4 @@
-/** Letters trodden in snow, to be read from a balloon. The document's promises are told there by number. */
+/** Letters trodden in snow, to be read from a balloon. What each call answers is told in ../shared/DOC.md. */
 public final class SnowLetters {
     private static final int BEYOND = -1000000001;
     private static final int FULL = -1000000002;
@@ -28,7 +28,7 @@ public final class SnowLetters {
         kept = new Plain();
         trial = new Plain();
         tape = new Tape();
-        text = new FieldText(tape, trial);
+        text = new FieldText();
         sheets = new Sheets();
         choice = new Choice();
         found = new int[FINDINGS];
@@ -352,7 +352,7 @@ public final class SnowLetters {
 
     public int field() {
         trial.become(plain);
-        int answer = text.tell();
+        int answer = text.tell(tape, trial);
         if (answer >= 0) {
             plain.become(trial);
         }
@@ -514,10 +514,9 @@ public final class SnowLetters {
         static final int ALL = 4095;
         private static final int[] ONE_END = {0, 1, 3, 4, 6, 7, 0, 1, 2, 3, 4, 5};
         private static final int[] OTHER_END = {1, 2, 4, 5, 7, 8, 3, 4, 5, 6, 7, 8};
+        /** Both ends of each STROKE, as a set of POINTS. */
+        private static final int[] ENDS = {3, 6, 24, 48, 192, 384, 9, 18, 36, 72, 144, 288};
         private static final int[] QUARTER = {8, 11, 7, 10, 6, 9, 1, 3, 5, 0, 2, 4};
-
-        private Forms() {
-        }
 
         static boolean isForm(int form) {
             return form >= 0 && form <= ALL;
@@ -529,14 +528,6 @@ public final class SnowLetters {
 
         static boolean hasStroke(int form, int stroke) {
             return (form >> stroke & 1) != 0;
-        }
-
-        /** Both ends of a STROKE, as a set of POINTS. */
-        static int endsOf(int stroke) {
-            if (stroke < 0 || stroke >= STROKES) {
-                return 0;
-            }
-            return 1 << ONE_END[stroke] | 1 << OTHER_END[stroke];
         }
 
         /** The POINT to which a STROKE leads from one; -1 if it doesn't end there. */
@@ -553,8 +544,8 @@ public final class SnowLetters {
         static int oddPoints(int form) {
             int points = 0;
             for (int stroke = 0; stroke < STROKES; stroke++) {
-                if (hasStroke(form, stroke)) {
-                    points ^= endsOf(stroke);
+                if ((form >> stroke & 1) != 0) {
+                    points ^= ENDS[stroke];
                 }
             }
             return points;
@@ -563,17 +554,19 @@ public final class SnowLetters {
         /** The STROKES that hang together with the least one. */
         static int firstPiece(int form) {
             int piece = form & -form;
-            int points = endsOf(Integer.numberOfTrailingZeros(form));
-            // A round that takes no STROKE ends it, so there are never more rounds than STROKES.
+            int points = 0;
+            // A round that reaches no new POINT is the last one, and there are fewer POINTS than STROKES.
             for (int round = 0; round < STROKES; round++) {
-                int before = piece;
+                int before = points;
                 for (int stroke = 0; stroke < STROKES; stroke++) {
-                    if (hasStroke(form, stroke) && (points & endsOf(stroke)) != 0) {
-                        piece |= 1 << stroke;
-                        points |= endsOf(stroke);
+                    int one = 1 << stroke;
+                    boolean hangs = (piece & one) != 0 || (points & ENDS[stroke]) != 0;
+                    if (hangs && (form & one) != 0) {
+                        piece |= one;
+                        points |= ENDS[stroke];
                     }
                 }
-                if (piece == before) {
+                if (points == before) {
                     break;
                 }
             }
@@ -676,27 +669,23 @@ public final class SnowLetters {
         /** The fewest of its own STROKES that make all POINTS even when trodden once more. */
         static int fewestToClose(int form) {
             int uneven = oddPoints(form);
-            int fewest = uneven == 0 ? 0 : STROKES;
-            int own = Integer.bitCount(form);
+            int fewest = Integer.bitCount(form);
             int twice = 0;
-            // Each step adds or takes just one STROKE, so that the ODD POINTS need not be told anew.
-            for (int step = 1; step < 1 << own; step++) {
-                int stroke = nthStroke(form, Integer.numberOfTrailingZeros(step));
-                twice ^= 1 << stroke;
-                uneven ^= endsOf(stroke);
-                if (uneven == 0) {
-                    fewest = Math.min(fewest, Integer.bitCount(twice));
+            for (int i = 0; i <= ALL; i++) {
+                if (Integer.bitCount(twice) < fewest && oddPoints(twice) == uneven) {
+                    fewest = Integer.bitCount(twice);
+                }
+                twice = nextPart(twice, form);
+                if (twice == 0) {
+                    break;
                 }
             }
             return fewest;
         }
 
-        private static int nthStroke(int form, int n) {
-            int rest = form;
-            for (int i = 0; i < n && i < STROKES; i++) {
-                rest &= rest - 1;
-            }
-            return Integer.numberOfTrailingZeros(rest);
+        /** The part of a set that is told by the next number; behind the last the empty one comes. */
+        static int nextPart(int part, int whole) {
+            return (part - whole) & whole;
         }
 
         static int byAQuarter(int form) {
@@ -736,9 +725,6 @@ public final class SnowLetters {
         private static final int CROSS = 1 << 2 | 1 << 3;
         private static final int UNDERLINE = 1 << 4 | 1 << 5;
 
-        private Kinds() {
-        }
-
         static boolean isKind(int kind) {
             return kind >= 0 && kind < COUNT;
         }
@@ -768,25 +754,6 @@ public final class SnowLetters {
                 at = above(at);
             }
             return false;
-        }
-
-        static String nameOf(int kind) {
-            switch (kind) {
-                case LETTER:
-                    return "letter";
-                case CAPITAL:
-                    return "capital";
-                case SOFT:
-                    return "soft";
-                case CROSSED:
-                    return "crossed";
-                case UNDERLINED:
-                    return "underlined";
-                case ICY:
-                    return "icy";
-                default:
-                    return "";
-            }
         }
 
         static int lasts(int kind, int deep) {
@@ -947,7 +914,7 @@ public final class SnowLetters {
                 if (Integer.bitCount(part) < fewest && isReadAs(form ^ part, other)) {
                     fewest = Integer.bitCount(part);
                 }
-                part = part - between & between;
+                part = Forms.nextPart(part, between);
                 if (part == 0) {
                     break;
                 }
@@ -1143,21 +1110,11 @@ public final class SnowLetters {
         }
     }
 
-    /** THE TAPE, and the TOKEN of it that is looked at. */
+    /** THE TAPE. */
     private static final class Tape {
         static final int MOST = 120;
-        static final int END = 0;
-        static final int WORD = 1;
-        static final int NUMBER = 2;
-        static final int SEMICOLON = 3;
-        static final int NO_TOKEN = 4;
-        private static final int MOST_NUMBER = 4095;
         private final byte[] bytes = new byte[MOST];
         private int length;
-        private int token;
-        private int start;
-        private int behind;
-        private int value;
 
         boolean hasRoomFor(int n) {
             return n <= MOST - length;
@@ -1176,115 +1133,187 @@ public final class SnowLetters {
             return before;
         }
 
-        void toFirstToken() {
-            behind = 0;
-            toNextToken();
+        /** 0 behind the last. */
+        int byteAt(int place) {
+            return place >= 0 && place < length ? bytes[place] & 255 : 0;
+        }
+    }
+
+    /** The TOKENS of THE TAPE (a byte that begins none stands there as NO_TOKEN); behind them all is END. */
+    private static final class Tokens {
+        static final int END = 0;
+        static final int WORD = 1;
+        static final int NUMBER = 2;
+        static final int SEMICOLON = 3;
+        static final int NO_TOKEN = 4;
+        /** The values of WORDS; ahead of these are the names of the KINDS, by their numbers. */
+        static final int SIGN = 6;
+        static final int SUN = 7;
+        static final int FORM = 8;
+        static final int AS = 9;
+        static final int DEEP = 10;
+        private static final int WORDS = 11;
+        private static final int ABOVE_NUMBERS = 4096;
+        private final int[] types = new int[Tape.MOST];
+        private final int[] starts = new int[Tape.MOST];
+        private final int[] values = new int[Tape.MOST];
+        private int size;
+        private int length;
+
+        void cut(Tape tape) {
+            size = 0;
+            length = tape.length;
+            int place = 0;
+            while (place < length && size < Tape.MOST) {
+                int type = typeOf(tape.byteAt(place));
+                int behind = endOf(tape, place, type);
+                if (type != END) {
+                    types[size] = type;
+                    starts[size] = place;
+                    values[size] = type == WORD ? wordIn(tape, place, behind) : numberIn(tape, place, behind);
+                    size++;
+                }
+                place = behind;
+            }
         }
 
-        void toNextToken() {
-            start = behind;
-            while (start < length && byteAt(start) == ' ') {
-                start++;
+        /** Which TOKEN a byte begins; END for a blank, which begins none and may stand. */
+        private static int typeOf(int sign) {
+            if (sign >= 'a' && sign <= 'z') {
+                return WORD;
             }
-            behind = start;
-            value = 0;
-            if (start >= length) {
-                token = END;
-            } else if (isLowerCase(byteAt(start))) {
-                token = WORD;
-                passWord();
-            } else if (isDigit(byteAt(start))) {
-                token = NUMBER;
-                passNumber();
-            } else {
-                token = byteAt(start) == ';' ? SEMICOLON : NO_TOKEN;
-                behind = start + 1;
+            if (sign >= '0' && sign <= '9') {
+                return NUMBER;
             }
+            if (sign == ';') {
+                return SEMICOLON;
+            }
+            return sign == ' ' ? END : NO_TOKEN;
         }
 
-        private void passWord() {
-            while (behind < length && isLowerCase(byteAt(behind))) {
+        private static int endOf(Tape tape, int start, int type) {
+            int behind = start + 1;
+            boolean isLong = type == WORD || type == NUMBER;
+            while (isLong && behind < tape.length && typeOf(tape.byteAt(behind)) == type) {
                 behind++;
             }
+            return behind;
         }
 
-        private void passNumber() {
-            while (behind < length && isDigit(byteAt(behind))) {
-                // Held just above what may be, so that no row of digits comes round to a small number.
-                value = Math.min(MOST_NUMBER + 1, value * 10 + byteAt(behind) - '0');
-                behind++;
+        /** -1 if it is none that a text may have. */
+        private static int wordIn(Tape tape, int start, int behind) {
+            for (int word = 0; word < WORDS; word++) {
+                if (isSpelt(tape, start, behind, spellingOf(word))) {
+                    return word;
+                }
             }
+            return -1;
         }
 
-        private int byteAt(int place) {
-            return place >= 0 && place < MOST ? bytes[place] & 255 : 0;
-        }
-
-        private static boolean isLowerCase(int sign) {
-            return sign >= 'a' && sign <= 'z';
-        }
-
-        private static boolean isDigit(int sign) {
-            return sign >= '0' && sign <= '9';
-        }
-
-        boolean isAtWord(String word) {
-            if (token != WORD || behind - start != word.length()) {
+        private static boolean isSpelt(Tape tape, int start, int behind, String spelling) {
+            if (behind - start != spelling.length()) {
                 return false;
             }
-            for (int i = 0; i < word.length(); i++) {
-                if (byteAt(start + i) != word.charAt(i)) {
+            for (int i = 0; i < spelling.length(); i++) {
+                if (tape.byteAt(start + i) != spelling.charAt(i)) {
                     return false;
                 }
             }
             return true;
         }
+
+        private static String spellingOf(int word) {
+            switch (word) {
+                case Kinds.LETTER:
+                    return "letter";
+                case Kinds.CAPITAL:
+                    return "capital";
+                case Kinds.SOFT:
+                    return "soft";
+                case Kinds.CROSSED:
+                    return "crossed";
+                case Kinds.UNDERLINED:
+                    return "underlined";
+                case Kinds.ICY:
+                    return "icy";
+                case SIGN:
+                    return "sign";
+                case SUN:
+                    return "sun";
+                case FORM:
+                    return "form";
+                case AS:
+                    return "as";
+                case DEEP:
+                    return "deep";
+                default:
+                    return "";
+            }
+        }
+
+        private static int numberIn(Tape tape, int start, int behind) {
+            int value = 0;
+            for (int place = start; place < behind; place++) {
+                // Held just above what may be, so that no row of digits comes round to a small number.
+                value = Math.min(ABOVE_NUMBERS, value * 10 + tape.byteAt(place) - '0');
+            }
+            return value;
+        }
+
+        int typeAt(int i) {
+            return i >= 0 && i < size ? types[i] : END;
+        }
+
+        int placeAt(int i) {
+            return i >= 0 && i < size ? starts[i] : length;
+        }
+
+        /** The value of a TOKEN of a type; -1 if it is of another. */
+        int valueAt(int i, int type) {
+            return i >= 0 && i < size && types[i] == type ? values[i] : -1;
+        }
     }
 
-    /** Reads THE TEXT of a FIELD; what its ITEMS change comes to a plain of its own, so that a FAULT can drop it. */
+    /** Reads THE TEXT of a FIELD into a plain; with a FAULT what it made of that plain is to be dropped. */
     private static final class FieldText {
-        private final Tape tape;
-        private final Plain plain;
+        private final Tokens tokens = new Tokens();
+        private int at;
 
-        FieldText(Tape tape, Plain plain) {
-            this.tape = tape;
-            this.plain = plain;
-        }
-
-        /** How many ITEMS; -1 less the place of the FAULT, which is where the TOKEN that can't stand is left. */
-        int tell() {
-            tape.toFirstToken();
+        /** How many ITEMS; -1 less the place of the FAULT: that of the TOKEN at which it comes to a stop. */
+        int tell(Tape tape, Plain plain) {
+            tokens.cut(tape);
+            at = 0;
             for (int items = 1; items <= Tape.MOST; items++) {
-                if (!passItem()) {
-                    return -1 - tape.start;
+                if (!passItem(plain)) {
+                    break;
                 }
-                if (tape.token == Tape.END) {
+                if (tokens.typeAt(at) == Tokens.END) {
                     return items;
                 }
-                if (tape.token != Tape.SEMICOLON) {
-                    return -1 - tape.start;
+                if (tokens.typeAt(at) != Tokens.SEMICOLON) {
+                    break;
                 }
-                tape.toNextToken();
+                at++;
             }
-            return -1 - tape.start;
+            return -1 - tokens.placeAt(at);
         }
 
-        private boolean passItem() {
-            if (passWord("sign")) {
-                return passSign();
+        private boolean passItem(Plain plain) {
+            if (passWord(Tokens.SIGN)) {
+                return passSign(plain);
             }
-            if (passWord("sun")) {
-                return passSun();
+            if (passWord(Tokens.SUN)) {
+                return passSun(plain);
             }
-            int kind = kindNamed();
-            if (kind < 0 || plain.isFull()) {
+            int kind = tokens.valueAt(at, Tokens.WORD);
+            if (!Kinds.isKind(kind) || plain.isFull()) {
                 return false;
             }
-            tape.toNextToken();
-            return passLetter(kind);
+            at++;
+            return passLetter(plain, kind);
         }
 
-        private boolean passSign() {
+        private boolean passSign(Plain plain) {
             int sign = passNumber(Book.SIGNS - 1);
             if (sign < 0) {
                 return false;
@@ -1297,7 +1326,7 @@ public final class SnowLetters {
             return true;
         }
 
-        private boolean passSun() {
+        private boolean passSun(Plain plain) {
             int set = passNumber(Forms.ALL);
             if (set < 0) {
                 return false;
@@ -1306,13 +1335,13 @@ public final class SnowLetters {
             return true;
         }
 
-        private boolean passLetter(int kind) {
-            int form = passForm();
+        private boolean passLetter(Plain plain, int kind) {
+            int form = passForm(plain);
             if (form < 0) {
                 return false;
             }
             int deep = Plain.DEEP_AT_FIRST;
-            if (passWord("deep")) {
+            if (passWord(Tokens.DEEP)) {
                 deep = passNumber(Plain.MOST_DEEP);
             }
             if (deep < 0) {
@@ -1323,42 +1352,32 @@ public final class SnowLetters {
         }
 
         /** -1 if none stands here. */
-        private int passForm() {
-            if (passWord("form")) {
+        private int passForm(Plain plain) {
+            if (passWord(Tokens.FORM)) {
                 return passNumber(Forms.ALL);
             }
-            if (!passWord("as")) {
+            if (!passWord(Tokens.AS)) {
                 return -1;
             }
             int sign = passNumber(Book.SIGNS - 1);
             return sign < 0 ? -1 : plain.book.formAt(sign);
         }
 
-        /** -1 if no KIND is named here. */
-        private int kindNamed() {
-            for (int kind = 0; kind < Kinds.COUNT; kind++) {
-                if (tape.isAtWord(Kinds.nameOf(kind))) {
-                    return kind;
-                }
-            }
-            return -1;
-        }
-
-        private boolean passWord(String word) {
-            if (!tape.isAtWord(word)) {
+        private boolean passWord(int word) {
+            if (tokens.valueAt(at, Tokens.WORD) != word) {
                 return false;
             }
-            tape.toNextToken();
+            at++;
             return true;
         }
 
         /** -1 if no NUMBER up to the most stands here. */
         private int passNumber(int most) {
-            if (tape.token != Tape.NUMBER || tape.value > most) {
+            int number = tokens.valueAt(at, Tokens.NUMBER);
+            if (number < 0 || number > most) {
                 return -1;
             }
-            int number = tape.value;
-            tape.toNextToken();
+            at++;
             return number;
         }
     }
