@@ -11,6 +11,7 @@ public final class LettersTest {
         asOneOfAKind();
         sunAndHours();
         nowOfAll();
+        nowOfTwelve();
         onAndWhen();
         kindForFeet();
         wrongInputs();
@@ -201,6 +202,26 @@ public final class LettersTest {
         due.is("of(2, 7)", x.of(2, 7), 1);
         due.is("now(4)", x.now(4), Due.BEYOND);
         due.is("now(-1)", x.now(-1), Due.BEYOND);
+    }
+
+    private static void nowOfTwelve() {
+        SnowLetters x = new SnowLetters();
+        for (int i = 0; i < 12; i++) {
+            x.letter(0, 7);
+        }
+        x.sign(0, 7);
+        x.sign(1, 4);
+        x.sun(3);
+        due.is("now(2)", x.now(2), 48);
+        due.is("now(3)", x.now(3), 0);
+        due.is("count(3)", x.count(3), 36);
+        due.is("best", x.best(48), 4095);
+        due.is("worth", x.worth(48), 12 * 13);
+        due.is("best", x.best(4), 1);
+        due.is("hours", x.hours(6), 12);
+        due.is("now(3)", x.now(3), 4095);
+        due.is("worth", x.worth(47), 11);
+        due.is("best: of several the least", x.best(47), 2047);
     }
 
     private static void onAndWhen() {
