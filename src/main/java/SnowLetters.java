@@ -1164,7 +1164,8 @@ public final class SnowLetters {
             size = 0;
             length = tape.length;
             int place = 0;
-            while (place < length && size < Tape.MOST) {
+            // Each round passes a byte at least, and makes one TOKEN at most.
+            for (int round = 0; round < Tape.MOST && place < length; round++) {
                 int type = typeOf(tape.byteAt(place));
                 int behind = endOf(tape, place, type);
                 if (type != END) {

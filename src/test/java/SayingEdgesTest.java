@@ -55,6 +55,12 @@ public final class SayingEdgesTest {
         edges.asked("28 best: it shows nothing, and isn't read as its form",
             withBook(letters(0, 7, 0, 64), 7, 6, 7, 64), x -> x.best(9999), 2);
         edges.asked("28 best: most feet", Edges.BUSY, x -> x.best(9999), 63);
+        SnowLetters again = letters(0, 7).get();
+        due.is("28 best: enough feet", again.best(4), 1);
+        due.is("28 best: then no feet, nothing of the last answer is left", again.best(0), 0);
+        due.is("29 worth: then no feet", again.worth(0), 0);
+        due.is("29 worth: enough feet", again.worth(4), 3);
+        due.is("28 best: too few again", again.best(3), 0);
     }
 
     private static void bestOfTwelve() {

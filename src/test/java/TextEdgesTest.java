@@ -189,6 +189,14 @@ public final class TextEdgesTest {
         for (String text : texts) {
             fault("it ends too early", text, text.length());
         }
+        SnowLetters x = new SnowLetters();
+        due.is("34 field: a longer text ahead", Due.field(x, "icy form 1 deep 2;sign 1 1;sun 5"), 3);
+        due.is("34 fault: nothing of the text ahead is taken for what it lacks", Due.field(x, "icy form"), -9);
+        due.is("34 field: a longer text ahead", Due.field(x, "sun 5;sun 6"), 2);
+        due.is("34 fault: nothing of the text ahead is taken for what it lacks", Due.field(x, "sun"), -4);
+        due.is("34 field: a longer text ahead", Due.field(x, "icy form 1 deep 2"), 1);
+        due.is("34 field: nothing of the text ahead comes to this one", Due.field(x, "icy form 1"), 1);
+        due.is("34 field: its deep is that at first", x.of(2, 2), 6);
         fault("it ends too early, by a full tape", "sun0;".repeat(24), 120);
         fault("blanks alone", " ".repeat(120), 120);
     }
