@@ -20,6 +20,7 @@ public final class FaceTest {
     public static void main(String[] args) throws Exception {
         face();
         language();
+        sizes();
         due.end("FaceTest");
     }
 
@@ -90,5 +91,37 @@ public final class FaceTest {
         Matcher statics = Pattern.compile("\\bstatic (?!final|boolean \\w+\\(|int \\w+\\(|long \\w+\\(|String \\w+\\()")
             .matcher(code);
         due.is("a static field that isn't final", statics.find() ? 1 : 0, 0);
+    }
+
+    /** Rule 11: short methods, few fields. */
+    private static void sizes() throws Exception {
+        List<String> lines = Files.readAllLines(SOURCE);
+        Pattern head = Pattern.compile("^( {4}(?: {4})?)(?! )(?!if|for|while|switch)[\\w \\[\\]]+\\(.*\\) \\{$");
+        int methods = 0;
+        for (int i = 0; i < lines.size(); i++) {
+            Matcher m = head.matcher(lines.get(i));
+            if (m.matches()) {
+                int end = i;
+                while (!lines.get(end).equals(m.group(1) + "}")) {
+                    end++;
+                }
+                due.is(lines.get(i).trim() + " stays short", Math.max(60, end - i + 1), 60);
+                methods++;
+            }
+        }
+        due.is("methods were found", methods > 100 ? 1 : 0, 1);
+        fields(SnowLetters.class);
+        for (Class<?> c : SnowLetters.class.getDeclaredClasses()) {
+            fields(c);
+        }
+    }
+
+    private static void fields(Class<?> c) {
+        long fields = Arrays.stream(c.getDeclaredFields()).filter(f -> !Modifier.isStatic(f.getModifiers())).count();
+        due.is(c + " has few fields", Math.max(20, fields), 20);
+        for (Field f : c.getDeclaredFields()) {
+            boolean isConstant = !Modifier.isStatic(f.getModifiers()) || Modifier.isFinal(f.getModifiers());
+            due.is(f + " is final, if static", isConstant ? 1 : 0, 1);
+        }
     }
 }
